@@ -335,7 +335,7 @@ public final class PailSpeech {
         if (!areTwo(one, other) || !within(n, 1, MOST_PICKS) || !within(what, 0, 1)) {
             return refuse(BEYOND);
         }
-        int value = duel.value(now, one, other, n);
+        int value = duel.play(now, one, other, n);
         return what == 0 ? value : duel.first;
     }
 
@@ -463,7 +463,8 @@ public final class PailSpeech {
             if (!now.hasWord(word) || !now.maySay(ahead, word)) {
                 return i;
             }
-            now.sayAll(ahead, word);
+            now.begin(ahead, word);
+            now.pass(ahead, now.tillEnd(ahead));
             if (ahead.how[word] != SAID) {
                 return i;
             }
@@ -638,7 +639,7 @@ public final class PailSpeech {
         }
 
         static int runs(int kind, int m) {
-            int iced = Math.max(1, 5 - m / 2);
+            int iced = atLeastOne(5 - m / 2);
             switch (kind) {
                 case LEAKY:
                     return 5 + m;
@@ -649,12 +650,16 @@ public final class PailSpeech {
                 case HOLED:
                     return 2 * (5 + m);
                 case FROZEN:
-                    return Math.max(1, iced / 2);
+                    return atLeastOne(iced / 2);
                 case GESTURED:
                     return 1 + m;
                 default:
                     return 5;
             }
+        }
+
+        private static int atLeastOne(int drops) {
+            return drops < 1 ? 1 : drops;
         }
 
         static int drips(int kind, int m) {
@@ -758,11 +763,11 @@ public final class PailSpeech {
         }
 
         boolean hasParty(int party) {
-            return within(party, 0, Math.min(parties, MOST_PARTIES) - 1);
+            return party >= 0 && party < parties && party < MOST_PARTIES;
         }
 
         boolean hasWord(int word) {
-            return within(word, 0, Math.min(words, MOST_WORDS) - 1);
+            return word >= 0 && word < words && word < MOST_WORDS;
         }
 
         /** How many sets of PARTIES there are, the empty one too. */
@@ -835,10 +840,6 @@ public final class PailSpeech {
             return held(drops, 0, load);
         }
 
-        int earOf(int word, int heard) {
-            return hasWord(word) ? earBy(worth[word], takes[word], heard) : 0;
-        }
-
         /** The PARTY whose WORD is IN HAND, or NOTHING. */
         int speaker(Flow f) {
             return hasWord(f.hand) ? whose[f.hand] : NOTHING;
@@ -864,12 +865,6 @@ public final class PailSpeech {
             }
         }
 
-        /** A WORD is said (with THUMB 0) for as many SECONDS as it takes. */
-        void sayAll(Flow f, int word) {
-            begin(f, word);
-            pass(f, tillEnd(f));
-        }
-
         /** How many SECONDS go by till nothing is IN HAND, the one of a CUT too. */
         int tillEnd(Flow f) {
             int party = speaker(f);
@@ -886,33 +881,23 @@ public final class PailSpeech {
             if (f.thumb != 0) {
                 return;
             }
+            int word = f.hand;
+            int party = speaker(f);
             int spoken = Math.min(n, tillEnd(f));
-            if (spoken > 0) {
-                speak(f, spoken);
+            if (hasWord(word) && hasParty(party) && spoken > 0) {
+                boolean dry = f.water[party] < spoken * runs(party);
+                drain(f, spoken);
+                f.toGo -= spoken;
+                if (dry) {
+                    f.end(word, CUT);
+                } else if (f.toGo <= 0) {
+                    int heard = f.heard[party];
+                    f.heard[party] = Math.min(MOST_HEARD, heard + earBy(worth[word], takes[word], heard));
+                    f.end(word, SAID);
+                }
             }
             if (n > spoken) {
                 drain(f, n - spoken);
-            }
-        }
-
-        /** n SECONDS, no more than the WORD IN HAND takes till its end. */
-        private void speak(Flow f, int n) {
-            int party = speaker(f);
-            if (!hasParty(party)) {
-                return;
-            }
-            boolean dry = f.water[party] < n * runs(party);
-            int word = f.hand;
-            drain(f, n);
-            if (dry) {
-                f.end(word, CUT);
-                return;
-            }
-            f.toGo -= n;
-            if (f.toGo <= 0) {
-                int heard = f.heard[party];
-                f.heard[party] = Math.min(MOST_HEARD, heard + earOf(word, heard));
-                f.end(word, SAID);
             }
         }
 
@@ -1009,7 +994,7 @@ public final class PailSpeech {
                 case '*':
                     return a * b;
                 case '/':
-                    return quotient(a, b);
+                    return b == 0 ? 0 : a / b;
                 default:
                     return b == 0 ? 0 : a % b;
             }
@@ -1171,26 +1156,24 @@ public final class PailSpeech {
         int length;
         int brings;
         private int seconds;
-        private State state;
         private final int[] from = new int[MOST_ROW];
         private int many;
         private final int[] trial = new int[MOST_ROW];
         private int heard;
         private int mostSeconds;
 
-        void find(State of, int set) {
-            state = of;
+        void find(State state, int set) {
             length = 0;
             brings = 0;
             seconds = 0;
             int least = leastOf(set);
-            if (!of.hasParty(least)) {
+            if (!state.hasParty(least)) {
                 return;
             }
-            heard = of.flow.heard[least];
-            mostSeconds = quotient(of.waterOf(set), of.runs(least));
-            gather(set);
-            lengthen(0, 0, 0, 0);
+            heard = state.flow.heard[least];
+            mostSeconds = quotient(state.waterOf(set), state.runs(least));
+            gather(state, set);
+            lengthen(state, 0, 0, 0, 0);
         }
 
         private static int leastOf(int set) {
@@ -1201,7 +1184,7 @@ public final class PailSpeech {
             return p;
         }
 
-        private void gather(int set) {
+        private void gather(State state, int set) {
             many = 0;
             for (int w = 0; w < state.words && w < MOST_WORDS && many < MOST_ROW; w++) {
                 if ((set >> state.whose[w] & 1) == 1 && state.flow.how[w] == UNSAID) {
@@ -1212,37 +1195,40 @@ public final class PailSpeech {
         }
 
         /** Tries the rows in their order, so that of equal ones the first stays. */
-        private void lengthen(int depth, int used, int taken, int sum) {
+        private void lengthen(State state, int depth, int used, int taken, int sum) {
             for (int i = 0; i < many && i < MOST_ROW && depth < MOST_ROW; i++) {
-                if (mayCome(from[i], used)) {
-                    append(from[i], depth, used, taken, sum);
+                if (mayCome(state, from[i], used)) {
+                    append(state, from[i], depth, used, taken, sum);
                 }
             }
         }
 
         /** A WORD comes behind those of the trial, if there is WATER for it. */
-        private void append(int word, int depth, int used, int taken, int sum) {
-            int time = taken + state.takes[word];
-            if (time > mostSeconds || !within(depth, 0, MOST_ROW - 1)) {
+        private void append(State state, int word, int depth, int used, int taken, int sum) {
+            if (!state.hasWord(word) || !within(depth, 0, MOST_ROW - 1)) {
                 return;
             }
-            int more = sum + state.earOf(word, heard + sum);
+            int time = taken + state.takes[word];
+            if (time > mostSeconds) {
+                return;
+            }
+            int more = sum + state.earBy(state.worth[word], state.takes[word], heard + sum);
             trial[depth] = word;
             keepIfBetter(depth + 1, time, more);
-            lengthen(depth + 1, used | 1 << word, time, more);
+            lengthen(state, depth + 1, used | 1 << word, time, more);
         }
 
-        private boolean mayCome(int word, int used) {
+        /** used holds the WORDS of the trial as bits. */
+        private static boolean mayCome(State state, int word, int used) {
             if (!state.hasWord(word) || (used >> word & 1) == 1) {
                 return false;
             }
-            int behind = state.behind[word];
-            return state.isFree(state.flow, word) || (used >> behind & 1) == 1;
+            return state.isFree(state.flow, word) || (used >> state.behind[word] & 1) == 1;
         }
 
         private void keepIfBetter(int words, int time, int sum) {
             if (sum > brings || (sum == brings && time < seconds)) {
-                System.arraycopy(trial, 0, row, 0, Math.min(words, MOST_ROW));
+                System.arraycopy(trial, 0, row, 0, held(words, 0, MOST_ROW));
                 length = words;
                 brings = sum;
                 seconds = time;
@@ -1314,7 +1300,6 @@ public final class PailSpeech {
         /** The first pick; MOST_WORDS is none at all. */
         int first;
         private final Flow[] flows = new Flow[MOST_PICKS + 1];
-        private State state;
         private int one;
         private int other;
         private int picks;
@@ -1325,25 +1310,24 @@ public final class PailSpeech {
             }
         }
 
-        int value(State of, int oneParty, int otherParty, int n) {
-            state = of;
+        int play(State state, int oneParty, int otherParty, int n) {
             one = oneParty;
             other = otherParty;
-            picks = Math.min(n, MOST_PICKS);
+            picks = held(n, 0, MOST_PICKS);
             Flow start = flows[0];
-            start.copy(of.flow);
+            start.copy(state.flow);
             start.thumb = 0;
             start.hand = NOTHING;
             start.toGo = 0;
-            return turn(0);
+            return turn(state, 0);
         }
 
         /** VALUE from a turn on; only the first turn keeps its pick. */
-        private int turn(int depth) {
-            if (depth >= picks || depth + 1 >= flows.length) {
-                return growth(flows[held(depth, 0, flows.length - 1)]);
+        private int turn(State state, int depth) {
+            Flow here = flows[held(depth, 0, MOST_PICKS)];
+            if (depth >= picks) {
+                return growth(state, here);
             }
-            Flow here = flows[depth];
             int party = depth % 2 == 0 ? one : other;
             int pick = NOTHING;
             int best = 0;
@@ -1354,14 +1338,14 @@ public final class PailSpeech {
                 }
                 unsaid++;
                 if (state.isFree(here, w)) {
-                    int value = valueOf(w, depth);
+                    int value = valueOf(state, w, depth);
                     if (pick == NOTHING || isBetter(value, best, depth)) {
                         pick = w;
                         best = value;
                     }
                 }
             }
-            int value = valueOf(MOST_WORDS, depth);
+            int value = valueOf(state, MOST_WORDS, depth);
             if (pick == NOTHING || isBetter(value, best, depth)) {
                 pick = MOST_WORDS;
                 best = value;
@@ -1371,16 +1355,17 @@ public final class PailSpeech {
         }
 
         /** VALUE if a turn picks this WORD, or none at all. */
-        private int valueOf(int pick, int depth) {
-            if (!within(depth, 0, flows.length - 2)) {
+        private int valueOf(State state, int pick, int depth) {
+            if (!within(depth, 0, MOST_PICKS - 1)) {
                 return 0;
             }
             Flow next = flows[depth + 1];
             next.copy(flows[depth]);
             if (state.hasWord(pick)) {
-                state.sayAll(next, pick);
+                state.begin(next, pick);
+                state.pass(next, state.tillEnd(next));
             }
-            return turn(depth + 1);
+            return turn(state, depth + 1);
         }
 
         /** What is good for the other one is bad for the one. */
@@ -1388,7 +1373,7 @@ public final class PailSpeech {
             return depth % 2 == 0 ? value > best : value < best;
         }
 
-        private int growth(Flow end) {
+        private int growth(State state, Flow end) {
             if (!state.hasParty(one) || !state.hasParty(other)) {
                 return 0;
             }

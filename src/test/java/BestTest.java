@@ -56,6 +56,7 @@ public final class BestTest {
         row("BEHIND of another one is SAID", x, 2, 15, 2);
         x.fetch(1, 7);
         row("both of DUMB", x, 2, 55, 2, 3);
+        row("nothing stays of the set ahead", x, 1, 0);
     }
 
     private static void bestOfEqualOnes() {
@@ -327,6 +328,8 @@ public final class BestTest {
         Due.is("how much", x.carried(0, 40, 1, 1), 507);
         Due.is("no whole way: the least load", x.carried(0, 1, 1, 0), 1);
         Due.is("no whole way: nothing", x.carried(0, 1, 1, 1), 0);
+        Due.is("two whole ways", x.carried(0, 7, 1, 1), 2 * 39);
+        Due.is("one whole way", x.carried(0, 4, 1, 1), 40);
         Due.is("SIZE 1", x.carried(1, 9999, 1, 0), 1);
         Due.is("SIZE 1", x.carried(1, 9999, 1, 1), 4999);
         x.become(0, 9);
@@ -372,6 +375,10 @@ public final class BestTest {
         }
         Due.is("RUNS", x.explained(0, 0), 7);
         Due.is("m stays", x.ofParty(0, 1), 8);
+        for (int i = 0; i < 3; i++) {
+            x.put(0, i, 14 * (i + 1));
+        }
+        Due.is("the highest m", x.explained(0, 0), 9);
         Due.is("nothing changed", x.count(3), 0);
         x.thumb(1);
         Due.is("THUMB", x.explained(0, 0), Due.NONE);

@@ -20,7 +20,8 @@ public final class HearingTest {
         Due.is("party", x.fetch(1, 5), Due.BEYOND);
         Due.is("n", x.fetch(0, 0), Due.BEYOND);
         Due.is("n", x.fetch(0, 1000), Due.BEYOND);
-        Due.is("some", x.fetch(0, 20), 20);
+        Due.is("one", x.fetch(0, 1), 1);
+        Due.is("some", x.fetch(0, 19), 20);
         Due.is("up to SIZE", x.fetch(0, 30), 50);
         Due.is("too much", x.fetch(0, 999), 50);
         Due.is("runs off", x.count(3), 0);
@@ -43,7 +44,8 @@ public final class HearingTest {
         Due.is("left", x.ofParty(0, 3), 20);
         Due.is("STATE ahead of FULL", x.pour(0, 1, 21), Due.STATE);
         Due.is("full", x.pour(0, 1, 1), Due.FULL);
-        Due.is("back", x.pour(1, 0, 30), 50);
+        Due.is("one", x.pour(1, 0, 1), 21);
+        Due.is("back", x.pour(1, 0, 29), 50);
         Due.is("FLOOR", x.count(3), 0);
     }
 
@@ -61,7 +63,8 @@ public final class HearingTest {
         Due.is("n", x.object(1, 0), Due.BEYOND);
         Due.is("n", x.object(1, 100), Due.BEYOND);
         Due.is("less", x.object(1, 51), Due.STATE);
-        Due.is("twice", x.object(1, 20), 20);
+        Due.is("one", x.object(1, 1), 58);
+        Due.is("twice", x.object(1, 19), 20);
         Due.is("FLOOR", x.count(3), 60);
         Due.is("one's own", x.ofParty(1, 3), 30);
         Due.is("as much as there is", x.object(1, 30), 0);

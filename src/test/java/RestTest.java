@@ -230,7 +230,7 @@ public final class RestTest {
         Due.is("first", x.image(), 1);
         x.thumb(0);
         x.seconds(2);
-        x.become(0, 30);
+        x.become(0, 39);
         x.party(0, 9);
         x.word(1, 3, 3, 0);
         x.set(1, 1, 9);
@@ -238,7 +238,9 @@ public final class RestTest {
         Due.read(x, 0, "7");
         Due.read(x, 1, "9");
         x.feed('7', 1);
+        x.feed('7', 1);
         x.check();
+        x.tell(29);
         x.loose(3);
         x.voice(1, 3, 1);
         x.sheet(0, 8, 1);
@@ -249,6 +251,7 @@ public final class RestTest {
             Due.is("count(" + what + ")", x.count(what), due[what]);
         }
         Due.is("KIND", x.ofParty(0, 0), 1);
+        Due.is("m", x.ofParty(0, 1), 2);
         Due.is("HEARD", x.ofParty(0, 4), 0);
         Due.is("LONG", x.ofWord(1, 1), 2);
         Due.is("UNSAID", x.ofWord(0, 4), 0);
@@ -256,7 +259,13 @@ public final class RestTest {
         Due.is("SPILL", x.law(1, 30, 0, 0), 15);
         Due.is("THE TAPE", x.text(0), 1);
         Due.is("THE TAPE", x.law(0, 5, 0, 0), 5);
+        x.thumb(0);
+        Due.is("FLOOR AHEAD", x.then(1, 0, 2), 8);
         Due.is("what waits", x.check(), 1);
+        x.restore();
+        x.become(0, 11);
+        x.thumb(0);
+        Due.is("what waits", x.check(), 0);
         Due.is("SHEETS stay", x.put(0, 0, 1), 1);
         Due.is("THE TRACE stays", x.trace(0), 13);
         Due.is("told() stays", x.told(2), 1);
