@@ -122,6 +122,16 @@ public final class HearingTest {
         x.say(1);
         Due.is("just RUNS", x.seconds(1), 18);
         Due.is("SAID", x.ofWord(1, 4), 1);
+
+        PailSpeech y = new PailSpeech();
+        y.party(0, 90);
+        y.party(0, 90);
+        y.fetch(0, 90);
+        y.fetch(1, 9);
+        y.word(1, 3, 7, -1);
+        y.say(0);
+        Due.is("its own WATER counts", y.seconds(5), 9);
+        Due.is("CUT", y.ofWord(0, 4), 2);
     }
 
     private static void seconds() {
@@ -257,7 +267,10 @@ public final class HearingTest {
         Due.is("above, loose", x.loose(100), Due.STATE);
         Due.is("BEYOND ahead of STATE", x.seconds(301), Due.BEYOND);
         Due.is("not above", x.seconds(90), 90);
+        x.image();
         Due.is("not above, loose", x.loose(9) >= 90 ? 1 : 0, 1);
+        x.restore();
+        Due.is("just not above", x.seconds(9), 99);
         Due.is("SECOND", x.count(2), 99999);
         Due.is("above", x.seconds(1), Due.STATE);
         Due.is("above, loose", x.loose(1), Due.STATE);

@@ -76,6 +76,8 @@ public final class RestTest {
         Due.is("i", x.trace(4), Due.NONE);
         Due.is("i", x.trace(Integer.MAX_VALUE), Due.NONE);
         Due.is("any number is no ERROR", x.voice(0, 0, -1000000002), -1000000002);
+        Due.is("the latest alone", x.count(10), 1);
+        Due.is("the latest alone", x.trace(0), 10);
         Due.is("NONE of trace alone", x.told(2), 3);
     }
 
@@ -241,6 +243,8 @@ public final class RestTest {
         x.feed('7', 1);
         x.check();
         x.tell(29);
+        x.tell(29);
+        x.set(1, 2, 77);
         x.loose(3);
         x.voice(1, 3, 1);
         x.sheet(0, 8, 1);
@@ -254,6 +258,7 @@ public final class RestTest {
         Due.is("m", x.ofParty(0, 1), 2);
         Due.is("HEARD", x.ofParty(0, 4), 0);
         Due.is("LONG", x.ofWord(1, 1), 2);
+        Due.is("WORTH", x.ofWord(1, 2), 5);
         Due.is("UNSAID", x.ofWord(0, 4), 0);
         Due.is("EAR", x.law(0, 5, 0, 0), 6);
         Due.is("SPILL", x.law(1, 30, 0, 0), 15);
