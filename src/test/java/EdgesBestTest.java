@@ -373,6 +373,12 @@ public final class EdgesBestTest {
         PailSpeech y = with(20);
         y.word(0, 2, 9, -1);
         Due.is("one alone", y.leaves(), Due.NONE);
+        // BEST 7, 1, together 7: SHARES 6 and a half, a half.
+        PailSpeech z = with(28, 5);
+        z.become(0, 49);
+        z.word(0, 1, 7, -1);
+        z.word(1, 1, 1, -1);
+        Due.is("more by a half", z.leaves(), 1);
         Look.refused("nobody would", Courts::empty, Due.NONE, PailSpeech::leaves);
         Look.refused("nobody would", () -> four(4, 7), Due.NONE, PailSpeech::leaves);
         Look.quiet("leaves()", () -> four(2, 7), 9, PailSpeech::leaves);
@@ -491,6 +497,14 @@ public final class EdgesBestTest {
         game("speaking the other one's PAIL empty", y, 0, 1, 2, 10, 0);
         y.fetch(1, 3);
         game("just enough stays", y, 0, 1, 2, 10 - 50, 0);
+        PailSpeech c = with(4, 18);
+        c.become(1, 19);
+        c.word(0, 3, 9, -1);
+        c.word(1, 1, 5, -1);
+        game("CUT in one SECOND, the other one drips once", c, 0, 1, 2, -5, 0);
+        c.become(1, 18);
+        c.fetch(0, 1);
+        game("CUT in two SECONDS, the other one drips twice", c, 0, 1, 2, 0, 0);
         PailSpeech z = with(14, 0);
         z.word(0, 3, 50, -1);
         z.word(0, 2, 9, -1);

@@ -100,6 +100,17 @@ public final class EdgesPartiesTest {
             int w = what;
             Look.quiet("ofParty(0, " + what + ")", Courts::quiet, due[what], x -> x.ofParty(0, w));
         }
+        Look.quiet("SAID WORDS of its own alone", Courts::quiet, 0, x -> x.ofParty(1, 7));
+        Look.quiet("SAID WORDS of its own alone", Courts::quiet, 0, x -> x.ofParty(2, 7));
+        PailSpeech all = Courts.alike(2, 0);
+        for (int w = 0; w < 12; w++) {
+            all.word(w == 5 ? 1 : 0, 1, 1, -1);
+            Due.is("none more is SAID as yet", all.ofParty(0, 7), w > 5 ? w - 1 : w);
+            all.say(w);
+            all.seconds(1);
+        }
+        Due.is("all of its own are SAID", all.ofParty(0, 7), 11);
+        Due.is("one of the other one is", all.ofParty(1, 7), 1);
         for (int party : new int[] {-1, 3, FAR[0], FAR[1]}) {
             Look.refused("ofParty(" + party + ", 0)", Courts::rich, Due.BEYOND, x -> x.ofParty(party, 0));
         }

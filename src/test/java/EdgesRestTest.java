@@ -448,6 +448,11 @@ public final class EdgesRestTest {
         Due.is("one is IN HAND now", judged(x, 8, 7, 3), 0);
         Due.is("one is IN HAND now, itself", judged(x, 8, 5), 0);
         Due.is("no number", judged(x, 8), 0);
+        PailSpeech free = Courts.alike(1, 0);
+        free.word(0, 1, 1, -1);
+        free.word(0, 1, 1, -1);
+        Due.is("no more than its numbers", judged(free, 8, 1), 1);
+        Due.is("no more than its numbers", judged(free, 8), 0);
         PailSpeech twelve = Courts.alike(1, 0);
         int[] all = new int[12];
         int[] forty = new int[40];

@@ -99,6 +99,9 @@ public final class EdgesTextsTest {
         String most = "w" + "+1".repeat(24);
         law(most, 900, 0, 0, 924);
         law(most + "0", 900, 0, 0, 933);
+        // Of 50 bytes each is a step of its own.
+        law("!w" + "+1".repeat(24), 0, 0, 0, 25);
+        law("!w" + "-w".repeat(24), 0, 0, 0, 1);
         fault(0, most + "+", 50);
         fault(0, most + "w", 49);
         fault(0, "w+".repeat(25), 50);

@@ -31,6 +31,7 @@ public final class RulesTest {
         String text = Files.readString(source, StandardCharsets.UTF_8);
         String code = text.replaceAll("(?s)/\\*.*?\\*/", " ").replaceAll("//[^\n]*", " ")
             .replaceAll("'(\\\\.|[^'\\\\])'", "0").replaceAll("\"[^\"]*\"", "\"\"");
+        order(text);
         words(code);
         names(code);
         methods(text);
@@ -84,6 +85,27 @@ public final class RulesTest {
             own += fixed ? 0 : 1;
         }
         yes(c + " has some twenty fields", own <= 20);
+    }
+
+    /** The calls in the order of the document's face, and what the interface says ahead of them. */
+    private static void order(String text) {
+        String[][] parts = {{"parties, words", "party ofParty become as word ofWord set"},
+            {"water", "fetch pour object thumb"}, {"the hearing", "say stop seconds loose then"},
+            {"texts", "feed text law"}, {"what would be best", "best share leaves game odds carried explained"},
+            {"draws, voices, sheets, images, what is told",
+                "seed voice trace sheet put move judge image restore tell check count told"}};
+        int at = 0;
+        for (String[] part : parts) {
+            int head = text.indexOf("    // ---- " + part[0] + "\n", at);
+            yes("---- " + part[0], head >= at);
+            at = Math.max(at, head);
+            for (String name : part[1].split(" ")) {
+                Matcher m = Pattern.compile("    public (int|long) (\\w+)\\(").matcher(text);
+                boolean is = m.find(at + 1) && m.group(2).equals(name);
+                yes(name + " stands in its place", is);
+                at = is ? m.start() : at;
+            }
+        }
     }
 
     private static void words(String code) {
